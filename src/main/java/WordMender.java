@@ -232,13 +232,16 @@ public final class WordMender {
         mending.clear(text.size);
         for (int r = 0; r < text.size; r++) {
             text.copyTo(r, typed);
-            mending.offer(KEPT, r, 0, lexicon.numberOf(typed), NONE);
+            int known = lexicon.numberOf(typed);
+            if (known != NONE) {
+                mending.offer(KEPT, r, 0, known, NONE);
+            }
         }
         for (int r = 0; r < text.size; r++) {
             offerSplit(r);
             if (!mending.offers(KEPT, r)) {
                 offerJoin(r);
-                mending.offerNoWord(r, bound + 1);
+                mending.offer(UNKNOWN, r, bound + 1, NONE, NONE);
                 text.copyTo(r, typed);
                 walk.go(typed, bound, false);
                 offerMended(r, bound);
@@ -327,7 +330,10 @@ public final class WordMender {
         for (int k = 0; k < text.sizeOf(r + 1); k++) {
             meant.append(text.at(r + 1, k));
         }
-        mending.offer(SPLIT, r, slips.kindPrice(SPLITS), lexicon.numberOf(meant), NONE);
+        int whole = lexicon.numberOf(meant);
+        if (whole != NONE) {
+            mending.offer(SPLIT, r, slips.kindPrice(SPLITS), whole, NONE);
+        }
     }
 
     /** MENDED is offered for a row of the text by what THE WALK for it has just told of WORDS. */
@@ -1164,22 +1170,12 @@ public final class WordMender {
             Arrays.fill(sums, 0);
         }
 
-        /** No PART is offered if the WORD is NONE. */
         private void offer(int kind, int r, int price, int first, int second) {
             int cell = cellOf(kind, r);
-            if (cell != NONE && first != NONE) {
+            if (cell != NONE) {
                 prices[cell] = price;
                 firsts[cell] = first;
                 seconds[cell] = second;
-            }
-        }
-
-        private void offerNoWord(int r, int price) {
-            int cell = cellOf(UNKNOWN, r);
-            if (cell != NONE) {
-                prices[cell] = price;
-                firsts[cell] = NONE;
-                seconds[cell] = NONE;
             }
         }
 

@@ -121,9 +121,7 @@ public final class MendTest {
         for (int k = 1; k < 12; k++) text.append(' ').append(row);
         checks.due("21 the longest text", Checks.mend(new WordMender(), text.toString(), 99999), 12);
         WordMender y = Checks.with("b");
-        Checks.mend(new WordMender(), "a", 0);
-        Checks.feed(y, text.toString());
-        y.mend(99999);
+        Checks.mend(y, text.toString(), 99999);
         checks.due("21 the greatest bound", y.part(-1, 1), 12 * 1200);
         WordMender z = new WordMender();
         Checks.mend(z, text.toString(), 99999);

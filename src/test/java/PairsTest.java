@@ -39,6 +39,11 @@ public final class PairsTest {
         checks.due("19 all of one kind", one("abc=abd").price(1, -1, -1, 1), 20);
         checks.due("19 none of another", one("abc=abd").price(2, -1, -1, 1), 200);
         checks.due("19 cut", sevenths().price(1, -1, -1, 1), 200 - 180 * 3 / 7);
+        String[] byKind = {"", "a=b", "ab=a", "a=ab", "ab=ba", "a=aa", "aa=a"};
+        for (int k = 1; k <= 6; k++) {
+            checks.due("19 kind " + k + " counts", by(k, byKind[k]).price(k, -1, -1, 1), 20);
+            checks.due("19 the others are dear", by(k, byKind[k]).price(k % 6 + 1, -1, -1, 1), 200);
+        }
         WordMender y = new WordMender();
         y.price(1, 2, 3, 5);
         y.price(2, 2, -1, 6);
@@ -56,6 +61,15 @@ public final class PairsTest {
 
     private static WordMender one(String pair) {
         WordMender x = new WordMender();
+        Checks.pair(x, pair);
+        x.learn();
+        return x;
+    }
+
+    /** A KIND made cheap so that the one pair goes by it alone. */
+    private static WordMender by(int kind, String pair) {
+        WordMender x = new WordMender();
+        x.price(kind, -1, -1, 50);
         Checks.pair(x, pair);
         x.learn();
         return x;

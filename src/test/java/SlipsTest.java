@@ -43,6 +43,8 @@ public final class SlipsTest {
         checks.due("8 swap by the kind", Checks.distance(x, "a=b"), 35);
         checks.due("8 left out goes", x.price(2, 0, -1, 0), 41);
         checks.due("8 put in goes", x.price(3, 0, -1, 0), 51);
+        x.price(1, 0, 1, 1);
+        checks.due("8 the least by letters", Checks.distance(x, "a=b"), 1);
         checks.due("8 the last letters", x.price(1, 25, 24, 9999), 0);
         checks.due("8 most by letters", x.price(1, 25, 24, 9999), 9999);
         checks.due("8 the kind stays", x.price(1, -1, -1, 35), 35);

@@ -115,6 +115,10 @@ public final class WalkTest {
         checks.same("15 the least of all beginnings", Checks.found(x), "2:0 0:100 1:100");
         checks.due("15 the empty one, too", Checks.complete(x, "z", 100), 4);
         checks.same("15 each by the empty one", Checks.found(x), "0:100 1:100 2:100 3:100");
+        x.price(3, -1, -1, 50);
+        Checks.complete(x, "z", 100);
+        checks.same("15 by the empty one alone", Checks.found(x), "0:50 1:50 2:50 3:50");
+        x.price(3, -1, -1, 100);
         checks.due("15 nothing", Checks.complete(x, "zz", 199), 0);
         checks.due("15 two put in", Checks.complete(x, "zz", 200), 4);
         checks.due("15 bound -1", Checks.complete(x, "po", -1), -2);

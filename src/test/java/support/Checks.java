@@ -1,14 +1,42 @@
+import java.util.TreeSet;
+import java.util.function.ToIntFunction;
+
 /** Counts answers that are not the due ones, and ends the program with 1 if there were any. */
 final class Checks {
     private int wrong;
     private int asked;
+    private int sentences;
+    private final TreeSet<String> places = new TreeSet<>();
+    /** Where the sentence that is looked at stands, and its words. */
+    private String sentence = "";
+
+    /** What is asked from here on looks at this sentence of the document. */
+    void sentence(String place, String words) {
+        sentences++;
+        places.add(place);
+        sentence = place + ", \"" + words + "\": ";
+        holds("the document has it", Document.says(place, words));
+    }
 
     void due(String call, long got, long want) {
-        asked++;
-        if (got != want) {
-            wrong++;
-            if (wrong <= 40) System.out.println(call + " answered " + got + ", due is " + want);
-        }
+        same(call, Long.toString(got), Long.toString(want));
+    }
+
+    /** A refused call changes nothing of an object that has a bit of everything. */
+    void refused(String call, int want, ToIntFunction<WordMender> refusal) {
+        WordMender x = Furnished.make();
+        due(call, refusal.applyAsInt(x), want);
+        same(call + ", and what stands then,", Furnished.look(x), Furnished.LOOK);
+    }
+
+    /** The host's refusal of a put() or forge() changes nothing but STATUS. */
+    void refusedByHost(String call, int status, ToIntFunction<WordMender> refusal) {
+        refused(call, -1, x -> {
+            int answer = refusal.applyAsInt(x);
+            due(call + ", its STATUS,", x.status(), status);
+            Furnished.lastStatus(x);
+            return answer;
+        });
     }
 
     void holds(String what, boolean truth) {
@@ -19,7 +47,13 @@ final class Checks {
         return wrong;
     }
 
+    /** Which places of the document the sentences were of. */
+    TreeSet<String> places() {
+        return places;
+    }
+
     void end() {
+        if (sentences > 0) System.out.println(sentences + " sentences of the document");
         System.out.println(asked + " answers looked at, " + wrong + " of them not as due");
         if (wrong != 0) System.exit(1);
     }
@@ -125,7 +159,7 @@ final class Checks {
         asked++;
         if (!got.equals(want)) {
             wrong++;
-            System.out.println(call + " answered " + got + ", due is " + want);
+            if (wrong <= 40) System.out.println(sentence + call + " answered " + got + ", due is " + want);
         }
     }
 }

@@ -12,7 +12,10 @@ public final class LanguageTest {
             "java.lang.System.arraycopy", "java.util.Arrays.fill");
     private static final Set<Tree.Kind> FORBIDDEN = EnumSet.of(Tree.Kind.THROW, Tree.Kind.TRY, Tree.Kind.CATCH,
             Tree.Kind.SYNCHRONIZED, Tree.Kind.ASSERT, Tree.Kind.LAMBDA_EXPRESSION, Tree.Kind.MEMBER_REFERENCE,
-            Tree.Kind.SWITCH_EXPRESSION, Tree.Kind.INSTANCE_OF, Tree.Kind.UNSIGNED_RIGHT_SHIFT_ASSIGNMENT);
+            Tree.Kind.SWITCH_EXPRESSION, Tree.Kind.INSTANCE_OF, Tree.Kind.UNSIGNED_RIGHT_SHIFT_ASSIGNMENT,
+            Tree.Kind.STRING_LITERAL, Tree.Kind.ENHANCED_FOR_LOOP);
+    /** The class gets by with these, with its own classes, and with one-dimensional arrays of numbers and truths. */
+    private static final Set<String> TYPES = Set.of("int", "long", "float", "boolean", "char", "void", "int[]", "boolean[]");
 
     private static Trees trees;
     private static CompilationUnitTree unit;
@@ -54,7 +57,9 @@ public final class LanguageTest {
 
     private static final class Reader extends TreePathScanner<Void, Void> {
         int classes;
+        private final Set<String> own = new HashSet<>();
         private String method = "";
+        private boolean makes = true;
 
         @Override public Void scan(Tree tree, Void v) {
             if (tree != null) checks.holds("rule 6 or 2: " + tree.getKind() + " " + tree, !FORBIDDEN.contains(tree.getKind()));
@@ -63,6 +68,11 @@ public final class LanguageTest {
 
         @Override public Void visitClass(ClassTree tree, Void v) {
             classes++;
+            makes = true;
+            own.add(tree.getSimpleName().toString());
+            for (Tree member : tree.getMembers()) {
+                if (member instanceof ClassTree) own.add(((ClassTree) member).getSimpleName().toString());
+            }
             boolean inside = getCurrentPath().getParentPath().getLeaf() instanceof ClassTree;
             Set<Modifier> flags = tree.getModifiers().getFlags();
             checks.holds("rule 2: " + tree.getSimpleName(), classes == 1 || inside && flags.contains(Modifier.STATIC));
@@ -72,14 +82,59 @@ public final class LanguageTest {
                 if (member instanceof VariableTree) {
                     Set<Modifier> f = ((VariableTree) member).getModifiers().getFlags();
                     if (!f.contains(Modifier.STATIC)) fields++;
-                    else checks.holds("rule 5: " + member, f.contains(Modifier.FINAL));
+                    else isConstant((VariableTree) member);
                 }
             }
             checks.holds("rule 11: fields of " + tree.getSimpleName(), fields <= 20);
             return super.visitClass(tree, v);
         }
 
+        private void isConstant(VariableTree field) {
+            checks.holds("rule 5: " + field, field.getModifiers().getFlags().contains(Modifier.FINAL));
+            boolean isArray = field.getType() instanceof ArrayTypeTree;
+            boolean isWrittenOut = field.getInitializer() instanceof NewArrayTree
+                    && ((NewArrayTree) field.getInitializer()).getInitializers() != null;
+            checks.holds("rule 5: " + field + " is written out", !isArray || isWrittenOut);
+        }
+
+        private void isAllowed(Tree type) {
+            String name = type.toString();
+            checks.holds("rule 3: " + name, TYPES.contains(name) || own.contains(name));
+        }
+
+        @Override public Void visitVariable(VariableTree tree, Void v) {
+            isAllowed(tree.getType());
+            return super.visitVariable(tree, v);
+        }
+
+        @Override public Void visitAssignment(AssignmentTree tree, Void v) {
+            if (tree.getVariable() instanceof ArrayAccessTree) {
+                Tree array = ((ArrayAccessTree) tree.getVariable()).getExpression();
+                Element e = trees.getElement(new TreePath(getCurrentPath(), array));
+                checks.holds("rule 5: " + tree + " changes a constant", e == null || !e.getModifiers().contains(Modifier.STATIC));
+            }
+            return super.visitAssignment(tree, v);
+        }
+
+        @Override public Void visitForLoop(ForLoopTree tree, Void v) {
+            checks.holds("rule 9: " + tree, tree.getCondition() != null && tree.getUpdate().size() == 1);
+            return super.visitForLoop(tree, v);
+        }
+
+        @Override public Void visitWhileLoop(WhileLoopTree tree, Void v) {
+            boolean literal = ((ParenthesizedTree) tree.getCondition()).getExpression() instanceof LiteralTree;
+            checks.holds("rule 9: " + tree, !literal);
+            return super.visitWhileLoop(tree, v);
+        }
+
+        @Override public Void visitNewArray(NewArrayTree tree, Void v) {
+            checks.holds("rule 12: a call makes " + tree, makes);
+            return super.visitNewArray(tree, v);
+        }
+
         @Override public Void visitMethod(MethodTree tree, Void v) {
+            if (tree.getReturnType() != null) isAllowed(tree.getReturnType());
+            makes = tree.getReturnType() == null;
             Element e = trees.getElement(getCurrentPath());
             method = e.getEnclosingElement() + "." + e;
             calls.putIfAbsent(method, new TreeSet<>());
@@ -90,7 +145,9 @@ public final class LanguageTest {
             checks.holds("rule 11: parameters of " + method, tree.getParameters().size() <= 7);
             boolean isPublic = tree.getModifiers().getFlags().contains(Modifier.PUBLIC);
             checks.holds("rule 1: name of " + method, isPublic || !face.contains(tree.getName().toString()));
-            return super.visitMethod(tree, v);
+            super.visitMethod(tree, v);
+            makes = true;
+            return null;
         }
 
         @Override public Void visitMethodInvocation(MethodInvocationTree tree, Void v) {
@@ -101,6 +158,8 @@ public final class LanguageTest {
 
         @Override public Void visitNewClass(NewClassTree tree, Void v) {
             checks.holds("rule 2: no anonymous class", tree.getClassBody() == null);
+            checks.holds("rule 12: a call makes " + tree, makes);
+            checks.holds("rule 4: " + tree, own.contains(tree.getIdentifier().toString()));
             return super.visitNewClass(tree, v);
         }
 

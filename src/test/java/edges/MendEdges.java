@@ -148,20 +148,18 @@ final class MendEdges {
 
     private void splitHasTwelveAtMost() {
         checks.sentence("==== 4", "the WORD that both together make (12 LETTERS at most): the price of splits");
-        WordMender x = Checks.with(TWELVE, "ab");
-        due(x, "a b", 0, "44", 2);
+        WordMender x = Checks.with(TWELVE);
         for (int cut = 1; cut < 12; cut++) {
-            due(x, TWELVE.substring(0, cut) + " " + TWELVE.substring(cut), 100, "2", 60);
-            // One letter more, ahead or behind, and nothing of it is taken for the WORD.
-            String first = "q" + TWELVE.substring(0, cut);
-            checks.due(first + " is too long", Checks.mend(x, first + " " + TWELVE.substring(cut), 0), 2);
-            checks.same("its kinds", Checks.parts(x), "44");
-            String second = TWELVE.substring(cut) + "q";
-            checks.due(second + " is too long", Checks.mend(x, TWELVE.substring(0, cut) + " " + second, 0), 2);
+            String first = TWELVE.substring(0, cut);
+            String second = TWELVE.substring(cut);
+            due(x, first + " " + second, 99, "2", 60);
+            // One LETTER more, and no twelve of the thirteen are taken for the WORD.
+            due(x, first + " " + second + "q", 99, "44", 200);
+            due(x, "q" + first + " " + second, 99, "44", 200);
         }
         due(x, TWELVE + " " + TWELVE, 100, "00", 0);
-        due(x, TWELVE + " b", 5, "04", 6);
-        due(x, "b " + TWELVE, 5, "40", 6);
+        due(x, TWELVE + " b", 99, "04", 100);
+        due(x, "b " + TWELVE, 99, "40", 100);
     }
 
     private void splitStandsAnywhere() {

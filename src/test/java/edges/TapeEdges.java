@@ -126,30 +126,24 @@ final class TapeEdges {
         emptiedByArguments();
     }
 
+    private interface WithNumber {
+        int read(WordMender x, int n);
+    }
+
     /** An argument outside is no reason to leave THE TAPE as it is. */
     private void emptiedByArguments() {
-        WordMender x = new WordMender();
-        int[] outside = {Integer.MIN_VALUE, -1, 1000000, Integer.MAX_VALUE};
-        for (int n : outside) {
-            x.feed(1, 'a');
-            checks.due("add " + n, x.add(n), WordMender.BAD);
-            checks.due("add " + n + " empties it", x.count(4), 0);
-            x.feed(1, 'a');
-            checks.due("near " + n, x.near(n), WordMender.BAD);
-            checks.due("near " + n + " empties it", x.count(4), 0);
-            x.feed(1, 'a');
-            checks.due("nearest " + n, x.nearest(n), WordMender.BAD);
-            checks.due("nearest " + n + " empties it", x.count(4), 0);
-            x.feed(1, 'a');
-            checks.due("complete " + n, x.complete(n), WordMender.BAD);
-            checks.due("complete " + n + " empties it", x.count(4), 0);
-            x.feed(1, 'a');
-            checks.due("mend " + n, x.mend(n), WordMender.BAD);
-            checks.due("mend " + n + " empties it", x.count(4), 0);
-            Checks.feed(x, "a=b");
-            checks.due("sound " + n, x.sound(n), WordMender.BAD);
-            checks.due("sound " + n + " empties it", x.count(4), 0);
+        WithNumber[] ofRows = {WordMender::add, WordMender::near, WordMender::nearest, WordMender::complete, WordMender::mend};
+        for (int n : new int[] {Integer.MIN_VALUE, -1, 1000000, Integer.MAX_VALUE}) {
+            for (int k = 0; k < ofRows.length; k++) emptiedBy(ofRows[k], "row reader " + k, "a", n);
+            emptiedBy(WordMender::sound, "sound", "a=b", n);
         }
+    }
+
+    private void emptiedBy(WithNumber reader, String name, String tape, int n) {
+        WordMender x = new WordMender();
+        Checks.feed(x, tape);
+        checks.due(name + " of " + n, reader.read(x, n), WordMender.BAD);
+        checks.due(name + " of " + n + " empties it", x.count(4), 0);
     }
 
     private void whatDoesNotReadLeavesIt() {

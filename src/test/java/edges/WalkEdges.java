@@ -18,7 +18,9 @@ final class WalkEdges {
         leftByEachPlace();
         neverLeftNearTheRoot();
         belowALeftOneNoneIsMet();
+        soundsGoOnFromTwoAbove();
         numberedAsMet();
+        asManyAsCanBeMet();
         nothingIsMetWithoutWords();
         sharesAreCut();
         sharesAreFloats();
@@ -178,6 +180,30 @@ final class WalkEdges {
         checks.due("qrt is none", x.node(4, 4), 0);
     }
 
+    private void soundsGoOnFromTwoAbove() {
+        checks.sentence("==== 2", "nor in those of the two NODES above it (one letter, two letters shorter, as far as there are)");
+        // A SOUND takes three LETTERS: what is near begins at a, the two NODES below it are far.
+        WordMender x = Checks.with("abcdz", "abczz");
+        for (int kind = 1; kind <= 6; kind++) x.price(kind, -1, -1, DEAREST);
+        for (int k = 0; k < 19; k++) Checks.sound(x, "w=v", 1);
+        Checks.sound(x, "bcd=q", 1);
+        checks.due("by its price", Checks.near(x, "aqz", 1), 1);
+        checks.same("abcdz", Checks.found(x), "0:1");
+        // ROOT a ab abc abcd abcdz abcz (left)
+        int[] least = {0, 0, DEAREST, 2 * DEAREST, 1, 1, 2 * DEAREST};
+        checks.due("met", x.count(5), least.length);
+        for (int i = 0; i < least.length; i++) {
+            checks.due("the least of " + i, x.node(i, 2), least[i]);
+            checks.due("left " + i, x.node(i, 3), i == 6 ? 1 : 0);
+        }
+        checks.due("0 does not pay for it", Checks.near(x, "aqz", 0), 0);
+        checks.due("met by 0", x.count(5), 6);
+        checks.due("abcd is left", x.node(4, 3), 1);
+        checks.due("complete() pays for it", Checks.complete(x, "aq", 1), 1);
+        checks.due("nearest() does", Checks.nearest(x, "aqz", 1), 1);
+        checks.due("so far off", x.found(0, 1), 1);
+    }
+
     private void numberedAsMet() {
         checks.sentence("==== 2", "NODES MET are numbered as they are MET.");
         WordMender x = Checks.with("ab", "z");
@@ -191,6 +217,19 @@ final class WalkEdges {
         checks.due("the last one of 209", full.node(208, 1), 199 % 26);
         checks.due("it is a word", full.node(208, 4), 1);
         checks.due("no 210th", full.node(209, 1), WordMender.NONE);
+    }
+
+    /** As 512 calls make no more: 168 WORDS of twelve LETTERS that have one or none in common. */
+    private void asManyAsCanBeMet() {
+        checks.sentence("==== 2", "a NODE for each beginning of WORDS");
+        WordMender x = new WordMender();
+        for (int k = 0; k < 168; k++) Checks.add(x, "" + (char) ('a' + k % 26) + (char) ('a' + k / 26) + "jklmnopqrs", 1);
+        int nodes = 1 + 26 + 168 * 11;
+        checks.due("in the tree", x.count(1), nodes);
+        checks.due("all words are near", Checks.near(x, "z", MOST_BOUND), 168);
+        checks.due("all nodes are met", x.count(5), nodes);
+        checks.due("the last one", x.node(nodes - 1, 0), 12);
+        checks.due("no other one", x.node(nodes, 0), WordMender.NONE);
     }
 
     private void nothingIsMetWithoutWords() {

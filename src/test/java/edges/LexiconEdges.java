@@ -11,6 +11,7 @@ final class LexiconEdges {
 
     void all() {
         wordsAre200();
+        countsStayWithin();
         numbersAreFromZero();
         numbersAreByLetters();
         numbersAreOfNow();
@@ -56,6 +57,18 @@ final class LexiconEdges {
         checks.due("the last one's count", x.word(199, 0), 200);
         checks.due("no other one", x.word(200, 0), WordMender.BAD);
         checks.due("it did not come", Checks.find(x, two(200)), WordMender.NONE);
+    }
+
+    private void countsStayWithin() {
+        checks.sentence("Terms", "each a ROW of LETTERS with a COUNT (1 .. 100000)");
+        WordMender x = new WordMender();
+        int[] more = {0, -5, 1, MIN, 100000, MAX, 99999, 100001, 1};
+        int[] due = {0, 0, 1, 1, 100000, 100000, 100000, 100000, 100000};
+        for (int k = 0; k < more.length; k++) {
+            Checks.add(x, "a", more[k]);
+            checks.due("words after " + more[k], x.count(0), due[k] == 0 ? 0 : 1);
+            checks.due("count after " + more[k], x.word(0, 0), due[k] == 0 ? WordMender.BAD : due[k]);
+        }
     }
 
     private void numbersAreFromZero() {

@@ -365,6 +365,7 @@ final class MendEdges {
         for (int i : new int[] {2, 3, 11, 12, -2, -3, MIN, MAX}) {
             for (int what = 0; what < 5; what++) checks.due("part " + i + " " + what, x.part(i, what), WordMender.NONE);
         }
+        for (int what : new int[] {0, 2, 3, 4}) checks.due("the sum has no " + what, x.part(-1, what), WordMender.NONE);
         Checks.mend(x, rows(12, "q"), 0);
         checks.due("the twelfth", x.part(11, 4), 1);
         for (int what = 0; what < 5; what++) checks.due("no 13th " + what, x.part(12, what), WordMender.NONE);

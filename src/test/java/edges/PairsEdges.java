@@ -19,6 +19,7 @@ final class PairsEdges {
         roundsGoOnForOnePair();
         sameCountsAreNotSameWays();
         moreRounds();
+        theLastRoundSetsPrices();
         twentyRoundsAtMost();
         kindsOneToSixCount();
         pricesFromTwentyTo200();
@@ -159,6 +160,25 @@ final class PairsEdges {
         checks.sentence("==== 3", "ROUNDS go on till");
         checks.due("three", withPairs("bbaaa=aabbb").learn(), 3);
         checks.due("four", withPairs("bcac=caba", "ccac=baca").learn(), 4);
+    }
+
+    private void theLastRoundSetsPrices() {
+        checks.sentence("==== 3", "(it sets its prices, and is the last)");
+        WordMender x = withPairs("bbaaa=aabbb");
+        checks.due("three rounds", x.learn(), 3);
+        // What THE WAY of the last ROUND counts is what the prices tell.
+        Checks.distance(x, "bbaaa=aabbb");
+        int[] c = new int[8];
+        int n = 0;
+        for (int i = 0; i < x.way(-1, 0); i++) {
+            c[x.way(i, 0)]++;
+            n += x.way(i, 0) > 0 ? 1 : 0;
+        }
+        for (int kind = 1; kind <= 6; kind++) {
+            int due = 200 - 180 * c[kind] / n;
+            checks.due("price of kind " + kind, x.price(kind, -1, -1, due), due);
+        }
+        checks.due("nothing is left to learn", x.learn(), 2);
     }
 
     private void twentyRoundsAtMost() {

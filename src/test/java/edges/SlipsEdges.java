@@ -10,10 +10,14 @@ final class SlipsEdges {
 
     void all() {
         placesAreFromZero();
+        sameAndSwapNeedOneInBoth();
+        leftOutNeedsOneInMeant();
+        putInNeedsOneInTyped();
         turnedNeedsTwoInBoth();
         doubledNeedsTwoInTyped();
         halvedNeedsTwoInMeant();
         aSoundNeedsBothRows();
+        soundsAreTwentyAtMost();
         pricesAtFirst();
         pricesAtTheirEdges();
         pricesByLettersAtTheirEdges();
@@ -37,6 +41,7 @@ final class SlipsEdges {
         distanceIsBad();
         wayAheadOfAny();
         wayOfOneToTwentyFour();
+        wayTellsOfSlips();
         wayTellsNone();
         wayIsBad();
         wayOfThen();
@@ -79,6 +84,41 @@ final class SlipsEdges {
         slip(x, 1, 1, 1);
         slip(x, 2, 4, 4);
         slip(x, 3, 5, 5);
+    }
+
+    private void sameAndSwapNeedOneInBoth() {
+        checks.sentence("==== 1", "0 SAME: the same LETTER in both. 1 SWAP: a LETTER a in MEANT, another one b in TYPED.");
+        WordMender x = cheap(1, 1);
+        due(x, "a=a", 0, "0");
+        due(x, "z=z", 0, "0");
+        due(x, "a=z", 1, "1");
+        due(x, "ab=a", DEAREST, "02");
+        due(x, "a=ab", DEAREST, "03");
+        due(x, "ab=c", 1 + DEAREST, "12");
+        due(x, "a=bc", 1 + DEAREST, "13");
+        due(x, "abcdefghijkl=bcdefghijkla", 12, "111111111111");
+    }
+
+    private void leftOutNeedsOneInMeant() {
+        checks.sentence("==== 1", "2 LEFT OUT: a LETTER a in MEANT, none in TYPED.");
+        WordMender x = cheap(2, 1);
+        due(x, "ab=a", 1, "02");
+        due(x, "ab=b", 1, "20");
+        due(x, "abc=b", 2, "202");
+        due(x, "a=ab", DEAREST, "03");
+        due(x, "abcdefghijkl=l", 11, "222222222220");
+        due(x, "abcdefghijkl=a", 11, "022222222222");
+    }
+
+    private void putInNeedsOneInTyped() {
+        checks.sentence("==== 1", "3 PUT IN: a LETTER a in TYPED, none in MEANT.");
+        WordMender x = cheap(3, 1);
+        due(x, "a=ab", 1, "03");
+        due(x, "b=ab", 1, "30");
+        due(x, "b=abc", 2, "303");
+        due(x, "ab=a", DEAREST, "02");
+        due(x, "l=abcdefghijkl", 11, "333333333330");
+        due(x, "a=abcdefghijkl", 11, "033333333333");
     }
 
     private void turnedNeedsTwoInBoth() {
@@ -141,6 +181,28 @@ final class SlipsEdges {
         due(x, "abcy=xdef", 3, "(0)(1)");
         checks.due("no kind has a sound's number", x.way(0, 4), 0);
         checks.due("the second one's", x.way(1, 4), 1);
+    }
+
+    private void soundsAreTwentyAtMost() {
+        checks.sentence("==== 1", "SOUNDS (20 at most, numbered as they come) have each a first and a second row of 1 to 3 LETTERS and a price.");
+        WordMender x = cheap(1, DEAREST);
+        String[] firsts = {"a", "bb", "ccc"};
+        String[] seconds = {"x", "yy", "zzz"};
+        for (int k = 0; k < 20; k++) {
+            String letter = "" + (char) ('a' + k);
+            String rows = firsts[k % 3].replaceAll(".", letter) + "=" + seconds[k / 3 % 3];
+            checks.due(rows, Checks.sound(x, rows, k == 19 ? DEAREST : k + 1), k);
+        }
+        checks.due("the 21st", Checks.sound(x, "u=x", 1), WordMender.FULL);
+        due(x, "a=x", 1, "(0)");
+        due(x, "bb=x", 2, "(1)");
+        due(x, "ccc=x", 3, "(2)");
+        due(x, "d=yy", 4, "(3)");
+        due(x, "iii=zzz", 9, "(8)");
+        due(x, "s=x", 19, "(18)");
+        due(x, "tt=xz", 2 * DEAREST, "11");
+        due(x, "tt=x", DEAREST, "(19)");
+        due(x, "u=x", DEAREST, "1");
     }
 
     private void pricesAtFirst() {
@@ -519,6 +581,18 @@ final class SlipsEdges {
         for (int what = 0; what < 5; what++) checks.due("no 25th " + what, x.way(24, what), WordMender.NONE);
         due(x, "a=a", 0, "0");
         checks.due("no second one any more", x.way(1, 0), WordMender.NONE);
+    }
+
+    private void wayTellsOfSlips() {
+        checks.sentence("Promise 12", "of its i-th: 0 the KIND, 1 its price, 2 its place in MEANT, 3 in TYPED, 4 the SOUND (NONE)");
+        WordMender x = cheap(1, DEAREST);
+        for (int k = 0; k < 20; k++) Checks.sound(x, k == 0 ? "z=y" : "wv=u", k < 19 ? 8 : 7);
+        due(x, "abzcddwv=abyeddu", 8 + DEAREST + 7, "00(0)100(19)");
+        int[][] slips = {{0, 0, 0, 0, -1}, {0, 0, 1, 1, -1}, {7, 8, 2, 2, 0}, {1, DEAREST, 3, 3, -1}, {0, 0, 4, 4, -1}, {0, 0, 5, 5, -1},
+            {7, 7, 6, 6, 19}};
+        for (int i = 0; i < slips.length; i++) {
+            for (int what = 0; what < 5; what++) checks.due("slip " + i + " " + what, x.way(i, what), slips[i][what]);
+        }
     }
 
     private void wayTellsNone() {

@@ -20,6 +20,8 @@ final class TapeEdges {
         bytesAmongTwoRowsAreBad();
         bytesInATextAreBad();
         refusalsChangeNothing();
+        fullChangesNothing();
+        theConstants();
         feedTakesTheLowest();
         feedIsBad();
         feedIsFull();
@@ -233,6 +235,31 @@ final class TapeEdges {
                 checks.refused(r.name() + " of " + tape, WordMender.BAD, x -> r.read(x, tape));
             }
         }
+    }
+
+    private void fullChangesNothing() {
+        checks.sentence("Terms", "Other refusals: FULL (-4); they change nothing but THE TAPE.");
+        WordMender x = new WordMender();
+        for (int k = 0; k < 20; k++) Checks.sound(x, "a=b", 50);
+        for (int k = 0; k < 40; k++) Checks.pair(x, "a=b");
+        checks.due("a sound", Checks.sound(x, "c=d", 1), -4);
+        checks.due("a pair", Checks.pair(x, "c=d"), -4);
+        for (int k = 0; k < 30; k++) x.feed(8, 0);
+        checks.due("a byte", x.feed(1, 'a'), -4);
+        int[] counts = {0, 0, 20, 40, 240, 0, 0, 0};
+        for (int what = 0; what < 8; what++) checks.due("count " + what, x.count(what), counts[what]);
+        checks.due("the pairs by the sounds", x.spread(), 40 * 50);
+        checks.due("the tape is emptied by what reads it", x.pair(), WordMender.BAD);
+        checks.due("no such sound came", Checks.distance(x, "c=d"), 100);
+    }
+
+    private void theConstants() {
+        checks.sentence("Terms", "NONE is -1.");
+        checks.due("NONE", WordMender.NONE, -1);
+        checks.due("BAD", WordMender.BAD, -2);
+        checks.due("FULL", WordMender.FULL, -4);
+        checks.due("find", Checks.find(new WordMender(), "a"), -1);
+        checks.due("find of nothing", new WordMender().find(), -2);
     }
 
     private void feedTakesTheLowest() {

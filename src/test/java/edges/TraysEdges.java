@@ -14,6 +14,8 @@ final class TraysEdges {
     void all() {
         traysAreZeroToSeven();
         nothingAtFirst();
+        putNothing();
+        thingsOfFourKinds();
         putLetters();
         putAState();
         putPrices();
@@ -23,12 +25,17 @@ final class TraysEdges {
         forgeIsOutside();
         nothingIsAsked();
         anotherThing();
+        aPlaceOutside();
+        aSizeBelowZero();
+        whatDoesNotFit();
+        dividedByZero();
         placesOfLetters();
         placesOfStates();
         placesOfPrices();
         placesOfTruths();
         rowsOfInts();
         copiesOfLetters();
+        sumsOfCopies();
         copiesAreRefused();
         rowsOfRows();
         dividedByN();
@@ -94,6 +101,35 @@ final class TraysEdges {
         put(x, 0, 0, 0);
         refused(x, 0, 2, 0, NOTHING);
         forge(x, 0, 6, 0, 0);
+    }
+
+    private void putNothing() {
+        checks.sentence("Promise 23", "A TRAY holds: what 0 nothing");
+        WordMender x = filled();
+        for (int tray = 0; tray < 8; tray++) {
+            put(x, tray, 0, 0);
+            forge(x, tray, 6, 0, 0);
+            refused(x, tray, 0, 0, NOTHING);
+        }
+    }
+
+    private void thingsOfFourKinds() {
+        checks.sentence("==== 5", "a WORD's LETTERS (as bytes), a STATE (as ints), the six prices of KINDS (as shorts), "
+                + "a truth for each LETTER (in the WORD; as booleans)");
+        WordMender x = filled();
+        for (int kind = 1; kind <= 6; kind++) x.price(kind, -1, -1, 9999);
+        x.price(1, 0, 1, 5);
+        Checks.near(x, "zzzzzzzzzzzz", 0);
+        put(x, STATE, 2, 0);
+        put(x, PRICES, 3, 0);
+        put(x, LETTERS, 1, 1);
+        put(x, TRUTHS, 4, 1);
+        int[] last = {0, 0, 12, 5, 25};
+        int[] due = {0, 25, 12 * 9999, 9999, 1};
+        for (int tray = LETTERS; tray <= TRUTHS; tray++) {
+            forge(x, tray, tray - 1, last[tray], due[tray]);
+            refused(x, tray, tray - 1, last[tray] + 1, NO_PLACE);
+        }
     }
 
     private void putLetters() {
@@ -249,6 +285,44 @@ final class TraysEdges {
         }
     }
 
+    private void aPlaceOutside() {
+        checks.sentence("==== 5", "12 a place outside");
+        WordMender x = filled();
+        int[] sizes = {0, 12, 3, 6, 26};
+        for (int tray = LETTERS; tray <= TRUTHS; tray++) {
+            checks.due("the first place", x.forge(tray, tray - 1, 0) >= 0 ? 1 : 0, 1);
+            checks.due("the last place", x.forge(tray, tray - 1, sizes[tray] - 1) >= 0 ? 1 : 0, 1);
+            refused(x, tray, tray - 1, -1, NO_PLACE);
+            refused(x, tray, tray - 1, sizes[tray], NO_PLACE);
+        }
+    }
+
+    private void aSizeBelowZero() {
+        checks.sentence("==== 5", "13 a size below 0");
+        WordMender x = filled();
+        forge(x, 0, 4, 0, 0);
+        refused(x, 0, 4, -1, BELOW_0);
+        refused(x, 0, 5, -1, NOTHING);
+        refused(x, LETTERS, 5, -1, NO_PLACE);
+    }
+
+    private void whatDoesNotFit() {
+        checks.sentence("==== 5", "14 a THING that does not fit");
+        WordMender x = filled();
+        for (int tray = 0; tray < 8; tray++) {
+            if (tray == LETTERS || tray == PRICES || tray == TRUTHS) refused(x, tray, 6, 0, NO_FIT);
+            else forge(x, tray, 6, 0, tray == STATE ? 3 : 0);
+        }
+    }
+
+    private void dividedByZero() {
+        checks.sentence("==== 5", "15 divided by 0");
+        WordMender x = filled();
+        forge(x, 0, 7, -1, -1000);
+        refused(x, 0, 7, 0, BY_0);
+        forge(x, 0, 7, 1, 1000);
+    }
+
     private void placesOfLetters() {
         checks.sentence("Promise 24", "0 it is taken for LETTERS (11), its n-th one (0 for a): 10, 12.");
         WordMender x = filled();
@@ -321,6 +395,19 @@ final class TraysEdges {
         Checks.add(x, "baaa", 1);
         put(x, LETTERS, 1, 1);
         forge(x, LETTERS, 5, 3, 3 * 97);
+    }
+
+    private void sumsOfCopies() {
+        checks.sentence("Promise 24", "answers the sum of the row (bytes 97 .. 122)");
+        WordMender x = Checks.with("baaa", "azzz", "q");
+        int[][] sums = {{0, 97, 194, 291}, {0, 122, 244, 366}};
+        // By letters azzz is number 0.
+        for (int k = 0; k < 2; k++) {
+            put(x, k, 1, 1 - k);
+            for (int n = 0; n <= 3; n++) forge(x, k, 5, n, sums[k][n]);
+        }
+        put(x, 2, 1, 2);
+        forge(x, 2, 5, 0, 0);
     }
 
     private void copiesAreRefused() {

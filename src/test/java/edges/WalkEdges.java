@@ -28,6 +28,7 @@ final class WalkEdges {
         rankByDistanceLessShare();
         rankByCounts();
         rankByLetters();
+        eachInRanksOrder();
         foundAtMostTheBound();
         foundByTheDistanceAlone();
         nearTakesBounds();
@@ -324,6 +325,28 @@ final class WalkEdges {
         checks.same("by letters", Checks.found(x), "1:0 0:100 2:100 4:100 5:100 3:200");
         Checks.nearest(x, "p", 3);
         checks.same("the first three", Checks.found(x), "1:0 0:100 2:100");
+    }
+
+    private void eachInRanksOrder() {
+        checks.sentence("==== 2", "each in RANK's order");
+        WordMender x = new WordMender();
+        Checks.add(x, "pa", 40);
+        Checks.add(x, "pb", 41);
+        Checks.add(x, "pab", 300);
+        Checks.add(x, "q", 1);
+        Checks.add(x, "qa", 101);
+        x.model(1000);
+        // Of pa: pa 0 - 40, pab 100 - 300, pb 100 - 41, q 200 - 1, qa 100 - 101.
+        Checks.near(x, "pa", 200);
+        checks.same("near()", Checks.found(x), "1:100 0:0 4:100 2:100 3:200");
+        Checks.nearest(x, "pa", 5);
+        checks.same("nearest()", Checks.found(x), "1:100 0:0 4:100 2:100 3:200");
+        // Of pa the beginnings: pa 0, pab 0, p and pb 100, q 200, qa 100.
+        Checks.complete(x, "pa", 200);
+        checks.same("complete()", Checks.found(x), "1:0 0:0 4:100 2:100 3:200");
+        Checks.add(x, "pb", 99);
+        Checks.near(x, "pa", 200);
+        checks.same("pb and pa are equal", Checks.found(x), "1:100 2:100 0:0 4:100 3:200");
     }
 
     private void foundAtMostTheBound() {

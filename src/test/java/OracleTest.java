@@ -3,6 +3,8 @@ import java.util.SplittableRandom;
 /** Random runs of calls on a WordMender and on the document's plain reading of itself. */
 public final class OracleTest {
     private static final Checks checks = new Checks();
+    /** One run of so many is that of a full object. */
+    private static final int FULL_EACH = 50;
     private static SplittableRandom random;
     private static WordMender real;
     private static PlainMender plain;
@@ -24,12 +26,30 @@ public final class OracleTest {
         letters = 2 + random.nextInt(seed % 5 == 0 ? 24 : 4);
         longest = seed % 3 == 0 ? 12 : 5;
         int calls = 60 + random.nextInt(120);
-        if (random.nextInt(3) > 0) for (int k = random.nextInt(30); k > 0; k--) addWord();
+        if (seed % FULL_EACH == FULL_EACH - 1) {
+            fill();
+            calls = 25;
+        } else if (random.nextInt(3) > 0) {
+            for (int k = random.nextInt(30); k > 0; k--) addWord();
+        }
         for (int k = 0; k < calls && checks.wrong() == 0; k++) {
             run = "run " + seed + " call " + k + ": ";
             step();
         }
         look();
+    }
+
+    /** As many WORDS, SOUNDS and PAIRS as there may be, and some that are refused. */
+    private static void fill() {
+        letters = 3 + random.nextInt(4);
+        longest = 12;
+        while (plain.count(0) < 200) addWord();
+        longest = 7;
+        while (plain.count(2) < 20) sound();
+        while (plain.count(3) < 40) pair();
+        addWord();
+        sound();
+        pair();
     }
 
     private static void step() {
@@ -44,7 +64,7 @@ public final class OracleTest {
             case 10: case 11: { tape(known()); int b = bound(); due("near " + b, real.near(b), plain.near(b)); walked(); break; }
             case 12: { tape(known()); int n = odd(20, 200); due("nearest " + n, real.nearest(n), plain.nearest(n)); walked(); break; }
             case 13: case 14: { tape(known()); int b = bound(); due("complete " + b, real.complete(b), plain.complete(b)); walked(); break; }
-            case 15: tape(two(longest)); due("pair", real.pair(), plain.pair()); break;
+            case 15: pair(); break;
             case 16: due("learn", real.learn(), plain.learn()); prices(); break;
             case 17: due("spread", real.spread(), plain.spread()); break;
             case 18: case 19: { tape(text()); int b = bound(); due("mend " + b, real.mend(b), plain.mend(b)); parts(); break; }
@@ -167,6 +187,11 @@ public final class OracleTest {
         tape(random.nextInt(10) == 0 ? two(4) : two(3));
         int v = odd(120, 9999);
         due("sound " + v, real.sound(v), plain.sound(v));
+    }
+
+    private static void pair() {
+        tape(two(longest));
+        due("pair", real.pair(), plain.pair());
     }
 
     private static void ways() {

@@ -144,6 +144,13 @@ final class MendEdges {
         due(Checks.with("ab", "a"), "a b", 100, "2", 60);
         due(Checks.with("ab", "b"), "a b", 100, "2", 60);
         due(Checks.with("ab", "a", "b"), "a b", 100, "00", 0);
+        // The rows around these two do not matter.
+        for (String known : new String[] {"a", "b"}) {
+            WordMender x = Checks.with("ab", known, "q");
+            due(x, "q a b", 100, "02", 60);
+            due(x, "a b q", 100, "20", 60);
+            due(x, "q a b q", 100, "020", 60);
+        }
     }
 
     private void splitHasTwelveAtMost() {
